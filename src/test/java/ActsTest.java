@@ -17,6 +17,7 @@ public final class ActsTest {
         snips();
         orderOfActs();
         thirtyActs();
+        mostJoins();
         takenBack();
         drawn();
         lucky();
@@ -53,6 +54,7 @@ public final class ActsTest {
         x = Checks.told("city years 3 law 0 slump 3 odds 3;partner wide 1 worth 9 gains 0;"
                 + "partner wide 1 worth 9 gains 0;join 0 1 wax 9;cold 0 at 0;");
         Checks.due("rests(0, 1)", x.rests(0, 1), 5);
+        Checks.due("rests(1, 0)", x.rests(1, 0), 3);
         Checks.due("rests(0, 0)", x.rests(0, 0), -2);
         Checks.due("rests(0, 2)", x.rests(0, 2), -2);
         Checks.due("rests(-1, 1)", x.rests(-1, 1), -2);
@@ -310,6 +312,26 @@ public final class ActsTest {
         Checks.due("weld 30", x.weld(1, 2, 4, 9), 1);
         Checks.due("weld 31", x.weld(0, 2, 0, 9), -5);
         Checks.due("tied(0, 2, 0): the snip is taken back", x.tied(0, 2, 0), 1);
+    }
+
+    private static void mostJoins() {
+        Checks.section("7 JOINS told, 30 made, and one besides");
+        StringBuilder text = new StringBuilder("city years 4 law 0 slump 6 odds 3;");
+        text.append("partner wide 1 worth 2 gains 3;partner wide 1 worth 20 gains 0;").append(SMALL).append(SMALL);
+        for (int j = 0; j < 7; j++) {
+            text.append("join 2 3 wax 1;");
+        }
+        WaxedPartners x = Checks.told(text + "cold 0 at 0;");
+        for (int i = 0; i < 29; i++) {
+            x.weld(2, 3, 3, 9);
+        }
+        Checks.due("weld(2, 0, 0, 1)", x.weld(2, 0, 0, 1), 1);
+        Checks.due("count(8)", x.count(8), 30);
+        Checks.due("tied(2, 0, 0)", x.tied(2, 0, 0), 1);
+        Checks.due("holds(0)", x.holds(0), 127);
+        x.undo();
+        x.weld(3, 2, 3, 1);
+        Checks.due("when(0, 1)", x.when(0, 1), 1);
     }
 
     private static void takenBack() {

@@ -40,6 +40,12 @@ public final class RowsTest {
         Checks.due("fair(0, 0)", x.fair(0, 0), 1);
         x.row(0, 3, 3);
         Checks.due("all 0 again", x.leave(0, 0), 1);
+        x.row(0, 3, 3);
+        Checks.due("all 0: PARTNER 0, DOOR 0, not through", x.trues(0), 0);
+        x.write(0, 2, 1);
+        Checks.due("PARTNER 0, DOOR 0, through", x.trues(0), 1);
+        x.row(0, 3, 3);
+        Checks.due("all 0 in place of another", x.trues(0), 0);
         Checks.fill(x, 0, 3, 60, 0, 0);
         Checks.due("leave(0, 0)", x.leave(0, 0), 2);
     }

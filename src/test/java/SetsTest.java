@@ -206,6 +206,8 @@ public final class SetsTest {
                 + "join 0 1 wax 9;join 1 2 wax 2;join 2 1 wax 3;");
         cut(x, 0, 2, 1, 1, 5);
         cut(x, 1, 2, 2, 6, 5);
+        x = Checks.told(EMPTY + PARTNERS + "join 0 1 wax 4;join 1 0 wax 3;join 1 2 wax 9;");
+        cut(x, 0, 2, 1, 4, 7);
         x = Checks.told(EMPTY + PARTNERS + "join 0 1 wax 9;");
         cut(x, 0, 2, 0, 0, 0);
         // two ways round a square, from corner to corner

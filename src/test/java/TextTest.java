@@ -171,6 +171,9 @@ public final class TextTest {
         fault(HEAD + "^4;", 1);
         fault(HEAD + "^doors 4;", 1);
         fault(HEAD + "^doo", 1);
+        fault(HEAD + "^doorz 4;", 1);
+        fault(HEAD + "^adoor 4;", 1);
+        fault(HEAD + "^xoor 4;", 1);
         fault(HEAD + "door 4^", 1);
         fault(HEAD + "door ^;", 1);
         fault(HEAD + "door ^door", 1);
@@ -226,7 +229,9 @@ public final class TextTest {
         Checks.due("fault(1)", x.fault(1), -1);
         Checks.due("city() of nothing", x.city(), 0);
         Checks.due("no CITY", x.firms(0), -2);
-        Checks.due("no years", x.count(0), 0);
+        for (int what = 0; what < 10; what++) {
+            Checks.due("nothing told: count(" + what + ")", x.count(what), 0);
+        }
     }
 
     private static void toldThings() {

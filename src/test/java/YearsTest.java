@@ -27,6 +27,7 @@ public final class YearsTest {
         widths();
         colds();
         manyFirms();
+        fewerYears();
         nobody();
         noneSuch();
         Checks.end();
@@ -236,6 +237,20 @@ public final class YearsTest {
         Checks.due("colds(2), cut a YEAR too late", x.colds(2), 2);
     }
 
+    private static void fewerYears() {
+        Checks.section("what was in YEARS that there are no more");
+        String rest = " law 0 slump 20 odds 0;partner wide 1 worth 0 gains 0;cold 0 at 10;";
+        WaxedPartners x = Checks.told("city years 12" + rest);
+        Checks.due("cold(0)", x.cold(0), 10);
+        Checks.due("fails(0)", x.fails(0), 11);
+        Checks.read(x, "city years 10" + rest);
+        Checks.due("cold(0)", x.cold(0), -1);
+        Checks.due("fails(0)", x.fails(0), -1);
+        Checks.due("out(9)", x.out(9), 0);
+        Checks.due("guards(0)", x.guards(0), 0);
+        Checks.due("drawn(0, 0)", x.drawn(0, 0), 0);
+    }
+
     private static void manyFirms() {
         Checks.section("several firms");
         WaxedPartners x = Checks.told("city years 2 law 0 slump 20 odds 0;"
@@ -289,6 +304,9 @@ public final class YearsTest {
         x = Checks.told(EMPTY + "partner wide 1 worth 0 gains 0;");
         Checks.due("merger() of one", x.merger(), 0);
         Checks.due("richest(0) of one", x.richest(0), 0);
+        Checks.due("largest(0) of one", x.largest(0), 1);
+        Checks.due("singles(0) of one", x.singles(0), 1);
+        Checks.due("firms(0) of one", x.firms(0), 1);
     }
 
     private static void noneSuch() {
