@@ -205,6 +205,12 @@ public final class GumBoundsTest {
         run.calls("row 0 0 0 = 0");
         run.calls("trues 0 = 2", "ask 0 = 54", "leaves 0 = 1");
         run.end();
+        // the first DOOR of the second PARTNER: with 0 nobody is joined
+        run = new Runs("ASK, ten times one", head(1, 0, 0, 5) + P + P + P + "join 1 2 wax 1;door 1;door 60;door 2;door 59;"
+                + "door 3;");
+        run.calls("row 0 0 0 = 0");
+        run.calls("trues 0 = 2", "ask 0 = 10", "leaves 0 = 1");
+        run.end();
     }
 
     private static void sevenJoins() {

@@ -7,8 +7,9 @@ import java.util.Random;
 
 /** Runs of calls by chance (always the same ones), each answered by the program and by Oracle. */
 public final class OracleTest {
-    private static final int RUNS = 400;
-    private static final int CALLS = 400;
+    private static final int RUNS = 600;
+    /** An object is used for 512 calls; the longest text takes some 60 of them. */
+    private static final int MOST_CALLS = 512 - 60;
 
     /** What each argument is: Partner, Year, Door, Join, slot, what, Law, number in a row .. */
     private static final String[] ASKED = {
@@ -29,6 +30,7 @@ public final class OracleTest {
     private final Random random;
     private final WaxedPartners program = new WaxedPartners();
     private final Oracle oracle = new Oracle();
+    private int made;
     private int partners = 6;
     private int joins = 7;
     private int doors = 5;
@@ -62,9 +64,9 @@ public final class OracleTest {
     }
 
     private void run() throws Exception {
-        for (int call = 0; call < CALLS && Checks.wrongSoFar() == 0; call++) {
+        while (made < MOST_CALLS && Checks.wrongSoFar() == 0) {
             int chosen = random.nextInt(100);
-            if (call == 0 || chosen < 2) {
+            if (made == 0 || chosen < 2) {
                 read();
             } else if (chosen < 25) {
                 call(DONE[random.nextInt(DONE.length)]);
@@ -84,6 +86,7 @@ public final class OracleTest {
             long value = argument(parts[i + 1].charAt(0));
             values[i] = asked.getParameterTypes()[i] == int.class ? (Object) (int) value : (Object) value;
         }
+        made++;
         Object got = asked.invoke(program, values);
         Object want = ORACLE.get(parts[0]).invoke(oracle, values);
         Checks.due(parts[0] + Arrays.toString(values), (Integer) got, (Integer) want);
@@ -163,7 +166,8 @@ public final class OracleTest {
         }
     }
 
-    private static void put(String call, long got, long want) {
+    private void put(String call, long got, long want) {
+        made++;
         Checks.due(call, got, want);
     }
 

@@ -91,7 +91,7 @@ final class Runs {
         Checks.section(name);
     }
 
-    private static int call(WaxedPartners x, String asked) {
+    static int call(WaxedPartners x, String asked) {
         String[] parts = asked.split(" ");
         Method method = FACE.get(parts[0]);
         Class<?>[] kinds = method.getParameterTypes();

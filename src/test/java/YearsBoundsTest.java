@@ -33,6 +33,8 @@ public final class YearsBoundsTest {
         nobodyAndOne();
         allOut();
         firstOfSeveral();
+        behindTheLastYear();
+        sixPartners();
         Checks.end();
     }
 
@@ -378,6 +380,32 @@ public final class YearsBoundsTest {
                 + partner(1, 5, 0) + partner(1, 9, 1) + "door 1;");
         run.calls("richest 0 = 1", "richest 1 = 3", "weld 0 2 0 1 = 1", "richest 0 = 0", "weld 2 0 1 1 = 1",
                 "richest 1 = 3", "weld 1 3 0 9 = 1", "richest 0 = 1", "weld 0 1 1 1 = 1", "richest 1 = 0");
+        run.end();
+    }
+
+    private static void behindTheLastYear() {
+        // what was in YEARS that there are no more is not seen
+        Runs run = new Runs("fewer YEARS than ahead", head(12, 0, 0) + P + P + "join 0 1 wax 9;door 2;");
+        run.calls("merger = 0", "firms 2 = 1", "out 11 = 0", "total 11 = 0");
+        run.text(head(2, 0, 0) + P + P + "door 2;");
+        run.calls("city = 4", "merger = -1", "apart 0 1 = 0", "firms 2 = -2", "total 2 = -10000", "cold 0 = -1");
+        run.text(head(12, 0, 0) + P + P + "door 2;");
+        run.calls("city = 4", "merger = -1", "firms 11 = 2", "weld 0 1 11 9 = 1", "merger = 11", "firms 11 = 1",
+                "apart 0 1 = 0", "snip 0 1 11 = 1", "merger = -1");
+        run.end();
+    }
+
+    private static void sixPartners() {
+        Runs run = new Runs("six PARTNERS", head(2, 1, 5) + partner(1, 1, 0) + partner(2, 2, 0) + partner(3, 3, 0)
+                + partner(4, 4, 0) + partner(5, 5, 0) + partner(6, 6, 0) + "door 5;door 6;cold 5 at 0;cold 4 at 0;");
+        run.each("wide # 0", -1, -2, 1, 2, 3, 4, 5, 6, -2);
+        run.each("passes # 0", -1, -2, 3, 3, 3, 3, 3, 2, -2);
+        run.each("worth # 1", -1, -10000, 1, 2, 3, 4, 0, 1, -10000);
+        run.each("by 0 #", 0, 5, 5, 6, 5);
+        run.each("by 1 #", 0, 6, 6, 6, 6);
+        run.calls("firms 0 = 6", "total 0 = 21", "total 1 = 11", "richest 0 = 5", "richest 1 = 3", "singles 0 = 63",
+                "colds 0 = 48", "out 1 = 0", "weld 4 5 0 1 = 1", "firms 0 = 5", "largest 0 = 2", "by 1 0 = 4",
+                "by 1 1 = 5", "by 0 1 = 4", "sneezer = 0", "mean 0 = 5", "mean 1 = 1");
         run.end();
     }
 }
