@@ -229,6 +229,15 @@ public final class SetsBoundsTest {
         gifts(run, 3, 1, 8, 0);
         run.calls("fair 3 1 = 0", "leave 3 1 = 1");
         run.end();
+        // by LAW 3 one more of them would be narrower: there is no such one, and none that would leave
+        run = new Runs("FAIR of those told alone", head(1, 3) + partner(5, 10) + partner(1, 10) + "door 4;door 5;");
+        gifts(run, 0, 0, 0, 10);
+        run.calls("leave 0 0 = -1", "fair 0 0 = 0", "leave 0 1 = 1", "fair 0 1 = 0");
+        gifts(run, 0, 0, -10, 10);
+        run.calls("leave 0 0 = 1", "fair 0 0 = 0");
+        gifts(run, 0, 0, 10, 10);
+        run.calls("leave 0 0 = -1", "fair 0 0 = 0", "leave 0 1 = -1", "fair 0 1 = 1");
+        run.end();
     }
 
     private static void asManyAsPartners() {
@@ -270,6 +279,20 @@ public final class SetsBoundsTest {
                 "write 0 1 " + Long.MAX_VALUE + " = 0", "write 0 2 26 = 0", "leave 0 1 = -1", "fair 0 1 = 0");
         // together just 23 in truth, though the first two wrap
         run.calls("write 0 0 MAX = 0", "write 0 1 MAX = 0", "leave 0 1 = -1", "fair 0 1 = 0");
+        run.end();
+        // together just 5 by the wrap of an int alone, or if a carry or a high half were lost
+        run = new Runs("FAIR about 2 to the 32", head(1, 1) + partner(1, 0) + partner(1, 5) + partner(1, 0) + "door 9;");
+        long wrap = 1L << 32;
+        long[][] great = {{wrap, 5, 0}, {wrap - 1, 6, 0}, {0, 6, wrap - 1}, {0, wrap + 5, 0}, {0, 5, wrap},
+            {wrap - 1, 5, 0}, {0, 5, wrap - 1}, {wrap - 3, 5, 3}, {wrap / 2, 5, wrap / 2}, {wrap, wrap, 0}};
+        for (long[] given : great) {
+            gifts(run, 0, 3, given);
+            run.calls("leave 0 0 = -1", "fair 0 0 = 0");
+        }
+        gifts(run, 0, 2, Integer.MAX_VALUE, Integer.MAX_VALUE, 7);
+        run.calls("leave 0 0 = -1", "fair 0 0 = 0", "write 0 2 2 = 0", "leave 0 0 = -1", "fair 0 0 = 0");
+        gifts(run, 0, 2, 0, 5, 0);
+        run.calls("leave 0 0 = -1", "fair 0 0 = 1", "write 0 1 4 = 0", "leave 0 0 = 2", "fair 0 0 = 0");
         run.end();
     }
 
