@@ -321,6 +321,13 @@ public final class GumBoundsTest {
         run.calls("rests 0 1 = 8", "gets 0 1 0 0 = 31", "gets 0 1 1 0 = 37", "gets 0 1 0 1 = 31", "gets 0 1 1 1 = 37",
                 "rests 0 2 = 2", "rests 2 0 = 4");
         run.end();
+        // 0 is kept by what 3 is worth till he gains enough; 3 has less by him than a shave costs
+        run = new Runs("REST, one who is kept", head(6, 0, 20, 0) + partner(1, 0, 9) + partner(1, 0, 0) + partner(1, 5, 0)
+                + partner(1, 99, 0) + "join 0 3 wax 9;door 1;cold 0 at 0;");
+        run.calls("gets 0 2 0 0 = 25", "gets 0 2 1 0 = -14", "gets 2 0 0 0 = 5", "gets 2 0 1 0 = 2", "rests 2 0 = 1",
+                "rests 0 2 = 1", "gets 0 3 0 1 = -11", "gets 0 3 1 1 = -14", "gets 3 0 0 0 = 79", "gets 3 0 1 0 = 96",
+                "gets 3 0 0 1 = 99", "gets 3 0 1 1 = 96", "rests 0 3 = 4", "rests 3 0 = 2");
+        run.end();
     }
 
     private static void waxedBesides() {

@@ -148,7 +148,7 @@ public final class OracleTest {
                 int[] ends = {partners, doors, 2};
                 v = random.nextInt(ends[i % 3] + (random.nextInt(40) == 0 ? 1 : 0));
             } else if (random.nextInt(4) == 0) {
-                v = argument('v');
+                v = random.nextBoolean() ? argument('v') : (1L << 32) - random.nextInt(3);
             }
             put("write", program.write(slot, i, v), oracle.write(slot, i, v));
         }

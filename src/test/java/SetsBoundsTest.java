@@ -238,6 +238,16 @@ public final class SetsBoundsTest {
         gifts(run, 0, 0, 10, 10);
         run.calls("leave 0 0 = -1", "fair 0 0 = 0", "leave 0 1 = -1", "fair 0 1 = 1");
         run.end();
+        // by DOOR 0 nobody goes, by DOOR 1 all: each DOOR has its own sets that would leave
+        run = new Runs("FAIR, DOOR by DOOR", head(1, 0) + partner(3, 10) + partner(2, 5) + partner(4, 8)
+                + "door 1;door 9;");
+        gifts(run, 0, 0, 9, 6, 8);
+        run.calls("fair 0 0 = 0", "leave 0 0 = -1", "fair 0 1 = 0", "leave 0 1 = 1");
+        gifts(run, 0, 0, 0, 0, 0);
+        run.calls("fair 0 0 = 1", "leave 0 0 = -1", "fair 0 1 = 0", "leave 0 1 = 1");
+        gifts(run, 0, 0, 10, 5, 8);
+        run.calls("fair 0 0 = 0", "leave 0 0 = -1", "fair 0 1 = 1", "leave 0 1 = -1");
+        run.end();
     }
 
     private static void asManyAsPartners() {
@@ -373,6 +383,10 @@ public final class SetsBoundsTest {
         // told a COLD himself in the last YEAR, or in one that is none
         run = new Runs("GUARDS, told himself", head(3, 0) + P + P + "door 1;cold 0 at 2;cold 1 at 3;");
         run.calls("guards 0 = -1", "guarded 0 = -1", "guards 1 = 0", "guarded 1 = 0");
+        run.end();
+        // the one to keep in may have a greater number than there are JOINS
+        run = new Runs("GUARDS, the last PARTNER", head(3, 0) + P.repeat(6) + "join 5 0 wax 9;door 1;cold 5 at 0;");
+        run.calls("guards 0 = 1", "guarded 0 = 32", "guards 5 = -1", "guarded 5 = -1", "guards 3 = 0");
         run.end();
     }
 

@@ -253,6 +253,19 @@ public final class YearsBoundsTest {
         run.each("hairs 0 1 #", 0, -1, -1, -1);
         run.calls("apart 0 1 = 0", "merger = -1");
         run.end();
+        // 1 has -1 in YEAR 1, and is OUT: made of him behind it, no JOIN holds, whoever is told first
+        run = new Runs("OUT, JOINS made of him", head(4, 3, 1) + partner(4, 5, 0) + partner(3, 0, 0)
+                + partner(2, 5, 0) + "join 0 2 wax 1;door 4;door 5;cold 1 at 0;");
+        run.calls("out 0 = 0", "out 1 = 2", "wide 0 0 = 5", "passes 0 0 = 2", "wide 0 2 = 4", "passes 0 2 = 3");
+        run.calls("weld 0 1 2 2 = 0", "tied 0 1 2 = 0", "tied 1 0 2 = 0", "firm 0 2 = 1", "wide 0 2 = 4",
+                "passes 0 2 = 3", "firm 1 2 = 0", "wide 1 2 = 0", "hairs 0 1 2 = -1", "hairs 1 0 2 = -1");
+        run.calls("undo = 0", "weld 1 0 2 2 = 0", "tied 0 1 2 = 0", "firm 0 2 = 1", "wide 0 2 = 4", "passes 0 2 = 3");
+        run.calls("weld 0 2 2 1 = 1", "firm 0 2 = 5", "wide 0 2 = 5", "wide 2 2 = 5", "passes 2 2 = 2",
+                "weld 0 1 2 1 = 0", "weld 2 1 2 1 = 0", "weld 1 2 2 1 = 0", "wide 0 2 = 5", "firms 2 = 1",
+                "holds 2 = 0", "out 2 = 2");
+        // made in YEAR 1 itself, it keeps him in: together they have 4
+        run.calls("anew = 5", "weld 1 0 1 1 = 1", "out 1 = 0", "wide 1 1 = 6", "out 2 = 2", "worth 1 2 = -1");
+        run.end();
     }
 
     private static void coldsAboutTheYears() {
@@ -336,6 +349,15 @@ public final class YearsBoundsTest {
         run.calls("snip 2 3 0 = 1");
         run.each("hairs 2 # 0", 0, 2, 1, 0, 5, 4, 3);
         run.calls("snip 4 5 0 = 1", "hairs 2 3 0 = -1", "hairs 2 5 0 = 3", "hairs 3 4 0 = 1", "largest 0 = 4");
+        run.end();
+        // the JOINS of the YEAR itself count: 0 - 2 in YEAR 0, 0 - 1 in 0 to 2, 1 - 2 in 0 and 1
+        run = new Runs("promise 16, YEAR by YEAR", head(4, 0, 0) + P + P + P
+                + "join 0 2 wax 1;join 0 1 wax 3;join 1 2 wax 2;door 1;");
+        run.each("hairs 0 2 #", 0, 1, 2, -1, -1);
+        run.each("hairs 2 1 #", 0, 1, 1, -1, -1);
+        run.calls("weld 2 0 2 1 = 1");
+        run.each("hairs 0 2 #", 0, 1, 2, 1, -1);
+        run.each("hairs 2 1 #", 0, 1, 1, 2, -1);
         run.end();
     }
 
